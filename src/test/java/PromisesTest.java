@@ -325,6 +325,15 @@ public final class PromisesTest {
         due("5: KEPT in a group", y.of(0, 1), 3);
         due("5: KEPT bytes", y.of(0, 2), 6);
 
+        String sixty = "0123456789".repeat(6);
+        SolidGroups w = with("0" + sixty, "0" + sixty, "0" + sixty.substring(0, 59), "0" + sixty.substring(0, 59) + "8",
+                "0" + sixty);
+        due("5: of sixty bytes", w.pack(400, 0), 1);
+        dueTwins("5: of sixty bytes", w, 0, 0, 2, 3, 0);
+        dueRow("5: of sixty bytes", w, 0, "0", "1", "2", "3", "4", "5", "6", "7", "8", "9", "10:60", "10:49", "59:59", "8");
+        due("13: of sixty bytes", w.access(4), 11);
+        dueText("14: of sixty bytes", w, 4, sixty);
+
         SolidGroups z = new SolidGroups();
         for (int e = 0; e < 30; e++) {
             z.entry(0);
@@ -388,6 +397,9 @@ public final class PromisesTest {
         x = with("0abcd1abcd2abcd");
         x.pack(400, 0);
         dueRow("16: of like ones the nearest", x, 0, "a", "b", "c", "d", "1", "5:4", "2", "5:4");
+        x = with("0abcd1abcd2abcd3");
+        x.pack(400, 0);
+        dueRow("16: the nearest, not at the end", x, 0, "a", "b", "c", "d", "1", "5:4", "2", "5:4", "3");
         x = with("0abcde1abcd2abcde");
         x.pack(400, 0);
         dueRow("16: the longest", x, 0, "a", "b", "c", "d", "e", "1", "6:4", "2", "11:5");
