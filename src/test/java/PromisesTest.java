@@ -1,106 +1,5 @@
 // Each promise of the document by itself, with answers worked out by hand.
-public final class PromisesTest {
-    private static final int BAD = -1, NO = -2, FULL = -3;
-    private static final int[] WRONG = {-1, Integer.MIN_VALUE, Integer.MAX_VALUE, 1000};
-    private static int wrong = 0;
-
-    private static void due(String what, long got, long want) {
-        if (got != want) {
-            wrong++;
-            System.out.println(what + " answered " + got + ", due is " + want);
-        }
-    }
-
-    private static void addText(SolidGroups x, int entry, String text) {
-        for (int i = 0; i < text.length(); i++) {
-            int want = i + 1;
-            due("octets(" + entry + ", 1, ..)", x.octets(entry, 1, text.charAt(i)), want);
-        }
-    }
-
-    private static int add(SolidGroups x, int kind, String text) {
-        int entry = x.entry(kind);
-        addText(x, entry, text);
-        return entry;
-    }
-
-    private static SolidGroups with(String... texts) {
-        SolidGroups x = new SolidGroups();
-        for (String text : texts) {
-            add(x, text.charAt(0) - '0', text.substring(1));
-        }
-        return x;
-    }
-
-    private static void dueOrder(String what, SolidGroups x, int... want) {
-        for (int i = 0; i < want.length; i++) {
-            due(what + ": order(" + i + ")", x.order(i), want[i]);
-        }
-        due(what + ": order(" + want.length + ")", x.order(want.length), BAD);
-    }
-
-    private static void dueGroups(String what, SolidGroups x, int... want) {
-        for (int e = 0; e < want.length; e++) {
-            due(what + ": group(" + e + ")", x.group(e), want[e]);
-        }
-    }
-
-    private static void dueTwins(String what, SolidGroups x, int... want) {
-        for (int e = 0; e < want.length; e++) {
-            due(what + ": twin(" + e + ")", x.twin(e), want[e]);
-        }
-    }
-
-    private static void dueMade(String what, SolidGroups x, int... want) {
-        for (int g = 0; g < want.length; g++) {
-            due(what + ": of(" + g + ", 5)", x.of(g, 5), want[g]);
-        }
-        due(what + ": count(2)", x.count(2), want.length);
-    }
-
-    private static void dueText(String what, SolidGroups x, int entry, String want) {
-        for (int i = 0; i < want.length(); i++) {
-            due(what + ": open(" + entry + ", " + i + ")", x.open(entry, i), want.charAt(i));
-        }
-        due(what + ": open(" + entry + ", " + want.length() + ")", x.open(entry, want.length()), BAD);
-    }
-
-    // Tokens are written "a" for a BYTE and "3:5" for a COPY of 5 from 3 back.
-    private static void dueRow(String what, SolidGroups x, int group, String... want) {
-        int size = 0;
-        for (int i = 0; i < want.length; i++) {
-            String at = what + ": token(" + group + ", " + i + ", ";
-            int colon = want[i].indexOf(':');
-            boolean copy = colon > 0;
-            size += copy ? 3 : 1;
-            due(at + "0)", x.token(group, i, 0), copy ? -1 : want[i].charAt(0));
-            due(at + "1)", x.token(group, i, 1), copy ? Integer.parseInt(want[i].substring(0, colon)) : 0);
-            due(at + "2)", x.token(group, i, 2), copy ? Integer.parseInt(want[i].substring(colon + 1)) : 1);
-        }
-        due(what + ": tokens", x.of(group, 3), want.length);
-        due(what + ": size", x.of(group, 4), size);
-        due(what + ": token behind the last", x.token(group, want.length, 0), BAD);
-    }
-
-    private static void dueNothingPacked(String what, SolidGroups x) {
-        due(what + ": count(1)", x.count(1), NO);
-        due(what + ": count(2)", x.count(2), NO);
-        due(what + ": count(3)", x.count(3), NO);
-        due(what + ": order(0)", x.order(0), NO);
-        due(what + ": order(-1)", x.order(-1), NO);
-        due(what + ": of(0, 0)", x.of(0, 0), NO);
-        due(what + ": of(-1, 0)", x.of(-1, 0), NO);
-        due(what + ": of(0, 6)", x.of(0, 6), NO);
-        due(what + ": token(0, 0, 0)", x.token(0, 0, 0), NO);
-        due(what + ": token(-1, -1, 3)", x.token(-1, -1, 3), NO);
-        due(what + ": sum(0)", x.sum(0), NO);
-        due(what + ": sum(5)", x.sum(5), NO);
-        due(what + ": sum(6)", x.sum(6), BAD);
-        due(what + ": sum(-1)", x.sum(-1), BAD);
-        due(what + ": count(4)", x.count(4), BAD);
-        due(what + ": count(-1)", x.count(-1), BAD);
-    }
-
+public final class PromisesTest extends Due {
     private static void newObject() {
         SolidGroups x = new SolidGroups();
         due("1: count(0)", x.count(0), 0);
@@ -489,15 +388,6 @@ public final class PromisesTest {
         due("6: 5 is not 7", y.common(5, 7), 0);
     }
 
-    private static int shareThrows(SolidGroups x, int a, int b) {
-        try {
-            x.share(a, b);
-            return 0;
-        } catch (ArithmeticException e) {
-            return 1;
-        }
-    }
-
     private static void questionsRefused() {
         SolidGroups x = with("0abcd", "0abcd", "0");
         for (int packed = 0; packed < 2; packed++) {
@@ -595,9 +485,6 @@ public final class PromisesTest {
         marks();
         questionsRefused();
         questions();
-        System.out.println(wrong == 0 ? "all answers are as due" : wrong + " answers are not as due");
-        if (wrong != 0) {
-            System.exit(1);
-        }
+        finish();
     }
 }
